@@ -1,17 +1,33 @@
+import java.io.IOException;
+import java.io.UncheckedIOException;
+import java.nio.file.Files;
+import java.nio.file.Path;
 import java.util.Random;
 
 /** What the tests share: a tally of answers, and ways to fill an object. */
 final class Checks {
     static final long BAD_LONG = Long.MIN_VALUE + 2;
+    private static String document = null;
     private int asked = 0;
     private int wrong = 0;
+    private int sentences = 0;
+    private String sentence = "";
+
+    /** Answers from here on are asked for by this sentence, which must stand in the document as it is quoted. */
+    void sentence(String quote) {
+        sentence = "";
+        holds("the document does not say: " + quote, documentText().contains(inOneLine(quote)));
+        sentence = quote;
+        sentences++;
+    }
 
     void due(String call, long got, long want) {
         asked++;
         if (got != want) {
             wrong++;
             if (wrong <= 50) {
-                System.out.println(call + " answered " + got + ", due is " + want);
+                String by = sentence.isEmpty() ? "" : " (by '" + sentence + "')";
+                System.out.println(call + " answered " + got + ", due is " + want + by);
             }
         }
     }
@@ -21,10 +37,26 @@ final class Checks {
     }
 
     void end() {
-        System.out.println(asked + " answers asked, " + wrong + " not as due");
+        String by = sentences == 0 ? "" : ", by " + sentences + " sentences";
+        System.out.println(asked + " answers asked" + by + ", " + wrong + " not as due");
         if (wrong != 0 || asked == 0) {
             System.exit(1);
         }
+    }
+
+    private static String documentText() {
+        if (document == null) {
+            try {
+                document = inOneLine(Files.readString(Path.of("../shared/DOC.md")));
+            } catch (IOException e) {
+                throw new UncheckedIOException(e);
+            }
+        }
+        return document;
+    }
+
+    private static String inOneLine(String text) {
+        return text.replaceAll("\\s+", " ");
     }
 
     static void type(TurnThird x, int text, String bytes) {

@@ -1,18 +1,13 @@
 import java.util.Random;
 
-/** Promise 35, by the public calls in their order, on many states; and refusals that change nothing. */
+/** Promise 35, by the public calls in their order, on many states. */
 public final class DigestTest {
     private static final Checks CHECKS = new Checks();
-    private static final int[] EDGES = {Integer.MIN_VALUE, -1000, -2, -1, 0, 1, 2, 3, 4, 5, 6, 7, 9, 10, 11, 15, 16,
-        17, 40, 59, 60, 61, 79, 80, 98, 99, 100, 255, 256, 998, 999, 1000, Integer.MAX_VALUE};
 
     public static void main(String[] args) {
         Random random = new Random(13);
-        for (int round = 0; round < 300; round++) {
+        for (int round = 0; round < 2000; round++) {
             randomState(random);
-        }
-        for (int round = 0; round < 400; round++) {
-            randomCalls(random);
         }
         CHECKS.end();
     }
@@ -64,79 +59,5 @@ public final class DigestTest {
             x.type(random.nextInt(2), 'q');
         }
         CHECKS.due("digest()", x.digest(), digestOf(x));
-    }
-
-    private static String sheetsOf(TurnThird x) {
-        StringBuilder items = new StringBuilder();
-        for (int s = 0; s < 4; s++) {
-            for (int form = 0; form < 3; form++) {
-                for (int i = 0; i < 60; i++) {
-                    items.append(x.get(s, form, i)).append(' ');
-                }
-            }
-        }
-        return items.toString();
-    }
-
-    /** Any numbers in any state: no call may throw, and a refusal changes nothing but count() 8. */
-    private static void randomCalls(Random random) {
-        TurnThird x = new TurnThird();
-        for (int call = 0; call < 512; call++) {
-            int which = random.nextInt(20);
-            int[] a = new int[5];
-            for (int i = 0; i < 5; i++) {
-                a[i] = random.nextInt(3) == 0 ? EDGES[random.nextInt(EDGES.length)] : random.nextInt(8);
-            }
-            if (which == 0) {
-                a[1] = "123456789r.;+-ux0123+-++".charAt(random.nextInt(24));
-            }
-            long before = x.digest();
-            String sheets = sheetsOf(x);
-            long answer = change(x, which, a);
-            if (answer < TurnThird.NONE) {
-                CHECKS.due("digest behind refusal of act " + which, x.digest(), before);
-                CHECKS.holds("sheets behind refusal of act " + which, sheets.equals(sheetsOf(x)));
-            }
-            ask(x, a);
-        }
-        CHECKS.due("digest()", x.digest(), digestOf(x));
-    }
-
-    private static long change(TurnThird x, int which, int[] a) {
-        switch (which) {
-            case 0: case 1: case 2: return x.type(a[0], a[1]);
-            case 3: return a[1] % 4 == 0 ? x.wipe(a[0]) : x.undo(a[0]);
-            case 4: return x.goers(a[0]);
-            case 5: return x.lamp(a[0], a[1]);
-            case 6: return x.read(a[0]);
-            case 7: return x.side(a[0], a[1]);
-            case 8: return x.gone();
-            case 9: return x.can(a[0], a[1], a[2], a[3]);
-            case 10: return x.sheet(a[0], a[1], a[2]);
-            case 11: return x.get(a[0], a[1], a[2]);
-            case 12: return x.lose(a[0]);
-            case 13: case 14: return x.lay(a[0], a[1], a[2], a[3]);
-            case 15: case 16: return x.copy(a[0], a[1], a[2], a[3], a[4]);
-            case 17: return x.write(a[0]);
-            case 18: return a[0] == 0 ? x.forget() : x.turned();
-            default: Checks.retype(x, 0, "334r;245.;111r;926."); return 0;
-        }
-    }
-
-    private static void ask(TurnThird x, int[] a) {
-        x.fault(a[0]);
-        x.part(a[0], a[1]);
-        x.far(a[0], a[1]);
-        x.safe(a[0], a[1]);
-        x.rule(a[0], a[1], a[2]);
-        x.point(a[0]);
-        x.state(a[0], a[1]);
-        x.left(a[0], a[1]);
-        x.unlit(a[0], a[1], a[2]);
-        x.help(a[0], a[1], a[2]);
-        x.least(a[0], a[1]);
-        x.first(a[0]);
-        x.mean(a[0]);
-        x.count(a[0]);
     }
 }

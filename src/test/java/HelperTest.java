@@ -37,9 +37,9 @@ public final class HelperTest {
     }
 
     private static void helpStageByStage() {
-        TurnThird x = new TurnThird();
         for (int n = 1; n <= 6; n++) {
             for (int c = 1; c <= 999; c++) {
+                TurnThird x = new TurnThird();
                 long[] want = farBy(n, c);
                 due("help(" + n + ", " + c + ", 0)", x.help(n, c, 0), want[0]);
                 due("help(" + n + ", " + c + ", 1)", x.help(n, c, 1), want[1]);
@@ -48,7 +48,6 @@ public final class HelperTest {
     }
 
     private static void leastOfAll() {
-        TurnThird x = new TurnThird();
         for (int c = 1; c <= 999; c += 7) {
             for (int far = 1; far <= 999; far += far < c ? 1 : 50) {
                 int want = -1;
@@ -56,9 +55,10 @@ public final class HelperTest {
                     long[] by = farBy(n, c);
                     want = by[0] >= far * by[1] ? n : want;
                 }
-                due("least(" + far + ", " + c + ")", x.least(far, c), want);
+                due("least(" + far + ", " + c + ")", new TurnThird().least(far, c), want);
             }
         }
+        TurnThird x = new TurnThird();
         due("least(1, 2)", x.least(1, 2), 1);
         due("least(1, 1)", x.least(1, 1), TurnThird.NONE);
         due("least(999, 999)", x.least(999, 999), TurnThird.NONE);
