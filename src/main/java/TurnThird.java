@@ -7,6 +7,8 @@ public final class TurnThird {
     private static final int MOST_UNLIT = 10, MOST_HELPERS = 6, MOST_MINUTES = 999;
     private static final int LAKE = 16;
     private static final int NULL = 1, INDEX = 2, CAST = 3, STORE = 4, SIZE = 5;
+    private static final int LEAST_INT = 1 << 31;
+    private static final long LEAST_LONG = 1L << 63;
 
     private final Text caveText = new Text(CAVE_BYTES);
     private final Text planText = new Text(PLAN_BYTES);
@@ -296,7 +298,7 @@ public final class TurnThird {
 
     public int get(int s, int form, int i) {
         // Any int may stand in an item, so all refusals share the least one.
-        return sheets.look(s, form, i) != 0 ? Integer.MIN_VALUE : sheets.item(s, i);
+        return sheets.look(s, form, i) != 0 ? LEAST_INT : sheets.item(s, i);
     }
 
     public int copy(int s, int i, int t, int j, int n) {
@@ -411,7 +413,7 @@ public final class TurnThird {
     }
 
     private static long refusal(int code) {
-        return Long.MIN_VALUE - code;
+        return LEAST_LONG - code;
     }
 
     private boolean isGoer(int goer) {

@@ -87,5 +87,62 @@ public final class LanguageTest {
             Matcher matcher = Pattern.compile(word).matcher(code);
             CHECKS.holds("ruled out: " + word, !matcher.find());
         }
+        library(code);
+        lengths(code);
+        room(code);
+    }
+
+    /** Rule 4: of the library only what stands there, so of Integer, Long and Math functions, not fields. */
+    private static void library(String code) {
+        Set<String> own = new TreeSet<>(Set.of("TurnThird"));
+        for (Class<?> one : TurnThird.class.getDeclaredClasses()) {
+            own.add(one.getSimpleName());
+        }
+        Set<String> functions = Set.of("Math.min", "Math.max", "System.arraycopy");
+        Matcher name = Pattern.compile("\\b([A-Z]\\w*[a-z]\\w*)(\\.\\w+)?(\\()?").matcher(code);
+        while (name.find()) {
+            boolean listed = functions.contains(name.group(1) + name.group(2)) && name.group(3) != null;
+            CHECKS.holds("of the library: " + name.group(), own.contains(name.group(1)) || listed);
+        }
+    }
+
+    /** Rule 11: some sixty lines a method, some twenty fields beside the constants of a class. */
+    private static void lengths(String code) {
+        String[] lines = code.split("\n");
+        for (String indent : new String[] {"    ", "        "}) {
+            int begun = -1;
+            for (int i = 0; i < lines.length; i++) {
+                if (lines[i].matches(indent + "\\S.*\\) \\{")) {
+                    begun = i;
+                } else if (begun >= 0 && lines[i].equals(indent + "}")) {
+                    CHECKS.holds("sixty lines: " + lines[begun].trim(), i - begun < 60);
+                    begun = -1;
+                }
+            }
+            CHECKS.due("methods that do not end", begun, -1);
+        }
+        fewFields(TurnThird.class);
+        for (Class<?> one : TurnThird.class.getDeclaredClasses()) {
+            fewFields(one);
+        }
+    }
+
+    private static void fewFields(Class<?> one) {
+        int fields = 0;
+        for (Field field : one.getDeclaredFields()) {
+            boolean isStatic = Modifier.isStatic(field.getModifiers());
+            CHECKS.holds("a static field is final: " + field, !isStatic || Modifier.isFinal(field.getModifiers()));
+            fields += isStatic ? 0 : 1;
+        }
+        CHECKS.holds("some twenty fields: " + one, fields <= 20);
+    }
+
+    /** All calls of a run live in one room, so rows are made with the object and used again. */
+    private static void room(String code) {
+        for (String line : code.split("\n")) {
+            boolean makes = Pattern.compile("\\bnew\\b").matcher(line).find();
+            boolean withTheObject = line.contains("private final") || line.contains("bytes = new int[");
+            CHECKS.holds("made behind the constructor: " + line.trim(), !makes || withTheObject);
+        }
     }
 }
